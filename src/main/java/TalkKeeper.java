@@ -1032,6 +1032,11 @@ public final class TalkKeeper {
         private int next = 0;
         private int size = 0;
 
+        /** A form that comes behind a line finds itself EMPTY in what was kept ahead of it. */
+        History() {
+            Arrays.fill(sureValues, NONE);
+        }
+
         int size() {
             return size;
         }
@@ -1041,8 +1046,6 @@ public final class TalkKeeper {
         }
 
         void keep(Form[] forms) {
-            Arrays.fill(sets, next * CELLS, (next + 1) * CELLS, 0);
-            Arrays.fill(sureValues, next * CELLS, (next + 1) * CELLS, NONE);
             for (int f = 0; f < forms.length && f < MAX_FORMS; f++) {
                 if (forms[f] != null) {
                     forms[f].copyTo(sets, sureValues, next * CELLS + f * MAX_PLACES);

@@ -73,8 +73,8 @@ final class ModelTest {
             }
         }
         rules(f);
-        for (int p = 0; p < 5; p++) {
-            for (int v = 0; v < 4; v++) {
+        for (int p = 0; p < places(f); p++) {
+            for (int v = 0; v < model.about(f, p, 4); v++) {
                 call("word", f, p, v, pick(9) == 0 ? pick(20) : 4 * p + v);
             }
             if (pick(6) != 0 && model.about(f, p, 3) != 1) {
@@ -113,7 +113,7 @@ final class ModelTest {
     }
 
     private int pick(int limit) {
-        return random.nextInt(limit);
+        return random.nextInt(Math.max(1, limit));
     }
 
     private void build() {
@@ -149,17 +149,17 @@ final class ModelTest {
     private void rules(int f) {
         int places = places(f);
         int way = pick(4);
-        int a = pick(places + 1);
-        int b = pick(places + 1);
+        int a = pick(places + (pick(9) == 0 ? 1 : 0));
+        int b = pick(places + (pick(9) == 0 ? 1 : 0));
         int w = pick(2);
         for (int i = pick(7); i > 0; i--) {
             if (way == 0) {
                 // one value that bars all of another place: so places come that can't be asked
                 call("bar", f, a, (i - 1) % 4, b, w);
             } else if (pick(3) != 0) {
-                call("bar", f, pick(places + 1), pick(3), pick(places + 1), pick(3));
+                call("bar", f, pick(places), pick(3), pick(places), pick(3));
             } else {
-                call("need", f, pick(places + 1), pick(3), pick(places + 1));
+                call("need", f, pick(places), pick(3), pick(places));
             }
         }
     }
@@ -168,8 +168,11 @@ final class ModelTest {
         int act = pick(4) == 0 ? 1 + pick(2) : 0;
         for (int i = pick(3) == 0 ? 1 + pick(4) : 1 + pick(2); i > 0; i--) {
             int what = pick(5);
-            if (what < 3 && act == 0) {
-                call("item", 1, pick(4));
+            int p = pick(places(f) + 1);
+            boolean fillable = model.about(f, p, 3) == 0 || model.about(f, p, 3) == 2;
+            // an item of no use blocks all rows to come: such are rare
+            if (what < 3 && act == 0 && (fillable || pick(40) == 0)) {
+                call("item", 1, p);
             } else if (what == 4) {
                 call("item", 2, 0);
             } else {

@@ -9,6 +9,7 @@ final class TalkTest {
         back();
         backKeepsTen();
         backOfAllForms();
+        backOfTheLastForm();
         backOfWorked();
         act();
         actOfSecret();
@@ -174,6 +175,21 @@ final class TalkTest {
         Talks.place(x, "the closed form", 0, 0, 4, 1);
         Talks.place(x, "its new place", 0, 1, 0, 0);
         Talks.place(x, "the new form", 2, 0, 0, 0);
+    }
+
+    private static void backOfTheLastForm() {
+        TalkKeeper x = one(3);
+        Talks.form(x, 2, 2, 2, 2, 4);
+        Talks.words(x, 2, 0, 2, 2, 2, 2, 4);
+        Talks.row(x, 2, 1, 0, 104);
+        x.open(2);
+        for (int i = 0; i < 22; i++) {
+            Talks.hear(x, 40 + i % 4);
+        }
+        for (int i = 21; i >= 12; i--) {
+            Due.is("back()", i - 12, x.back());
+            Talks.place(x, "line " + i, 2, 4, 1 << (i - 1) % 4, 1);
+        }
     }
 
     private static void backOfWorked() {
@@ -407,6 +423,17 @@ final class TalkTest {
         x.act();
         Due.is("NO at 6", 6, Talks.hear(x, 40));
         Talks.place(x, "or passed over", 0, 0, 7, 0);
+        Talks.row(x, 0, 7, 2, 41, 42);
+        Talks.row(x, 0, 1, 2, 42);
+        x.act();
+        Due.is("NO, or a word passed over and NO", 7, Talks.hear(x, 41, 42));
+        Due.is("two readings", 2, x.heard(3));
+        Talks.place(x, "not all are one row", 0, 0, 7, 0);
+        Talks.row(x, 0, 2, 2, 42, 42);
+        x.act();
+        Due.is("NO, or NO and NO", 2, Talks.hear(x, 42, 42));
+        Due.is("two readings", 2, x.heard(3));
+        Talks.place(x, "not all are one row", 0, 0, 7, 0);
         Talks.row(x, 0, 1, 0, 32);
         x.act();
         Due.is("NO or FILL", 1, Talks.hear(x, 32));
