@@ -22,6 +22,10 @@ final class Due {
         return wrong;
     }
 
+    static int asked() {
+        return asked;
+    }
+
     static void end() {
         System.out.println(wrong == 0 ? asked + " answers are as due" : wrong + " of " + asked + " answers are not as due");
         System.exit(wrong == 0 ? 0 : 1);
