@@ -203,6 +203,19 @@ final class BoundaryActTest {
         x.open(0);
         // whatever place 4 is, 0 or 1 can't be asked behind it: so it comes last of the three
         Due.is("place 4 last", 200, x.act());
+        x = with(2, 2, 2, 2, 2);
+        x.bar(0, 4, 0, 0, 0);
+        x.bar(0, 4, 1, 0, 0);
+        x.open(0);
+        Due.is("five questions", 5, x.worst());
+        Due.is("place 0 not first: behind its 0, place 4 can't be asked", 210, x.act());
+        x = with(4, 4, 4, 4, 4);
+        for (int v = 0; v < 4; v++) {
+            x.bar(0, 4, v, 0, 0);
+        }
+        x.open(0);
+        Due.is("five questions, of all VALUES there can be", 5, x.worst());
+        Due.is("place 0 not first: behind its 0, place 4 can't be asked", 210, x.act());
     }
 
     private static void askLeastPlace() {

@@ -18,6 +18,7 @@ final class BoundaryFormsTest {
         Sentence.holds("VALUES, 0 .. n - 1", BoundaryFormsTest::valuesEnd);
         Sentence.holds("a KIND: 0 PLAIN; 1 WORKED; 2 SECRET", BoundaryFormsTest::kinds);
         Sentence.holds("out of two PLACES of the FORM with lesser numbers", BoundaryFormsTest::partsAreLesser);
+        Sentence.holds("out of two PLACES: any two", BoundaryFormsTest::anyTwoParts);
         Sentence.holds("that are not WORKED", BoundaryFormsTest::partsAreNotWorked);
         Sentence.holds("(they may be one)", BoundaryFormsTest::partsMayBeOne);
         Sentence.holds("its VALUE is the sum of theirs modulo n", BoundaryFormsTest::sumWrapsAround);
@@ -182,6 +183,21 @@ final class BoundaryFormsTest {
         Due.is("the greatest lesser one", 2, x.worked(0, 2, 1, 1));
         x = with();
         Due.is("a form without places has no parts", NONE, x.worked(0, 2, 0, 0));
+    }
+
+    private static void anyTwoParts() {
+        for (int a = 0; a < 4; a++) {
+            for (int b = 0; b < 4; b++) {
+                TalkKeeper x = with(4, 4, 4, 4);
+                Due.is("worked", 4, x.worked(0, 4, a, b));
+                Talks.words(x, 0, 0, 4, 4, 4, 4);
+                Talks.row(x, 0, 1, 0, 100, 101, 102, 103);
+                x.open(0);
+                int[] values = {1, 3, 2, 0};
+                Talks.hear(x, values[0], 10 + values[1], 20 + values[2], 30 + values[3]);
+                Talks.place(x, "out of " + a + " and " + b, 0, 4, 1 << (values[a] + values[b]) % 4, 1);
+            }
+        }
     }
 
     private static void partsAreNotWorked() {

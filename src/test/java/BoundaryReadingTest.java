@@ -22,6 +22,7 @@ final class BoundaryReadingTest {
 
     private static void places() {
         Sentence.holds("filled with what the last ITEM of it (in the LINE) said", BoundaryReadingTest::lastItem);
+        Sentence.holds("the last ITEM of it, in some LEAST READINGS a later one", BoundaryReadingTest::lastItemInSome);
         Sentence.holds("For each PLACE, not WORKED", BoundaryReadingTest::notWorked);
         Sentence.holds("if none does, it stays", BoundaryReadingTest::stays);
         Sentence.holds("If all fill it with one, it is SURE of that", BoundaryReadingTest::allWithOne);
@@ -172,6 +173,24 @@ final class BoundaryReadingTest {
         Talks.place(x, "the eighth word", 0, 0, 1, 1);
         Due.is("the last piece that fills", 8, Talks.hear(x, 1, 40));
         Talks.place(x, "the last piece that fills", 0, 0, 2, 1);
+    }
+
+    private static void lastItemInSome() {
+        TalkKeeper x = with(4);
+        Talks.row(x, 0, 1, 0, 100);
+        Talks.row(x, 0, 3, 0, 50, 100);
+        Talks.row(x, 0, 3, 0, 50, 200);
+        x.open(0);
+        Talks.hear(x, 3);
+        Due.is("0, and then 1 or nothing", 4, Talks.hear(x, 0, 50, 1));
+        Due.is("two readings", 2, x.heard(3));
+        Talks.place(x, "all fill it, with 0 or 1", 0, 0, 3, 0);
+        Due.is("1 or nothing, and then 2", 4, Talks.hear(x, 50, 1, 2));
+        Due.is("two readings", 2, x.heard(3));
+        Talks.place(x, "all fill it with 2", 0, 0, 4, 1);
+        Due.is("0 or nothing, and then 1 or nothing", 6, Talks.hear(x, 50, 0, 50, 1));
+        Due.is("four readings", 4, x.heard(3));
+        Talks.place(x, "0, 1, or what it had", 0, 0, 7, 0);
     }
 
     private static void notWorked() {

@@ -156,6 +156,16 @@ final class BoundaryTalkTest {
         Talks.hear(x, YES, YES);
         Due.is("one ROW, or two", 2, x.heard(3));
         untouched(x, "one has two ROWS");
+        x = asked();
+        Talks.row(x, 0, 7, 1, PASSED, YES);
+        Talks.hear(x, PASSED, YES);
+        Due.is("one ROW, or a word passed over and a ROW", 2, x.heard(3));
+        untouched(x, "one has a word passed over");
+        x = asked();
+        Talks.row(x, 0, 7, 2, NO, PASSED);
+        Talks.hear(x, NO, PASSED);
+        Due.is("one ROW, or a ROW and a word passed over", 2, x.heard(3));
+        untouched(x, "one has a word passed over");
     }
 
     private static void wholeLine() {
@@ -191,6 +201,31 @@ final class BoundaryTalkTest {
         Talks.row(x, 0, 1, 0, 43);
         Talks.hear(x, 43);
         untouched(x, "FILL without a PLACE");
+        firstAndLastRow();
+    }
+
+    /** The first ROW there is and the last there can be count as all do. */
+    private static void firstAndLastRow() {
+        for (int act = 0; act <= 2; act++) {
+            TalkKeeper x = new TalkKeeper();
+            Talks.form(x, 2);
+            Talks.row(x, 0, 1, act, YES);
+            x.word(0, 0, 1, 1);
+            Talks.row(x, 0, 6, 0, 100);
+            while (x.count(7) < 19) {
+                Talks.row(x, 0, 1, 1, YES);
+            }
+            Talks.row(x, 0, 1, 1, NO);
+            x.open(0);
+            Talks.hear(x, 1);
+            Due.is("CONFIRM", 101, x.act());
+            Talks.hear(x, YES);
+            Talks.place(x, "ROW 0 with act " + act, 0, 0, 2, act == 1 ? 1 : 0);
+            x.back();
+            x.act();
+            Talks.hear(x, NO);
+            Talks.place(x, "ROW 19", 0, 0, 2, 1);
+        }
     }
 
     private static void latestActConfirms() {
@@ -501,6 +536,15 @@ final class BoundaryTalkTest {
         for (int p = 2; p < 5; p++) {
             Talks.place(x, "EMPTY as ahead", 2, p, 0, 0);
         }
+        x = talk();
+        Talks.hear(x, 1);
+        Talks.form(x, 2, 2, 2, 2, 2);
+        x.place(1, 0, 2);
+        x.back();
+        for (int p = 0; p < 5; p++) {
+            Talks.place(x, "a FORM that came since", 2, p, 0, 0);
+        }
+        Talks.place(x, "a PLACE that came since", 1, 1, 0, 0);
     }
 
     private static void tenAreKept() {
@@ -517,6 +561,32 @@ final class BoundaryTalkTest {
                 Talks.place(x, "line " + ahead, 0, 0, ahead < 0 ? 0 : 1 << ahead % 4, ahead < 0 ? 0 : 1);
             }
             Due.is("no more", STATE, x.back());
+        }
+        for (int f = 0; f < 3; f++) {
+            tenOfAForm(f);
+        }
+    }
+
+    /** All five PLACES of a FORM, through more LINES than are kept. */
+    private static void tenOfAForm(int f) {
+        TalkKeeper x = new TalkKeeper();
+        for (int i = 0; i < 3; i++) {
+            Talks.form(x, 4, 4, 4, 4, 4);
+        }
+        Talks.words(x, f, 0, 4, 4, 4, 4, 4);
+        for (int p = 0; p < 5; p++) {
+            Talks.row(x, f, 1, 0, 100 + p);
+        }
+        x.open(f);
+        for (int i = 0; i < 21; i++) {
+            Talks.hear(x, i % 4, 10 + (i + 1) % 4, 20 + i / 2 % 4, 30 + i / 3 % 4, 40 + i / 4 % 4);
+        }
+        for (int i = 19; i >= 10; i--) {
+            Due.is("back", i - 10, x.back());
+            int[] values = {i % 4, (i + 1) % 4, i / 2 % 4, i / 3 % 4, i / 4 % 4};
+            for (int p = 0; p < 5; p++) {
+                Talks.place(x, "form " + f + ", line " + i, f, p, 1 << values[p], 1);
+            }
         }
     }
 

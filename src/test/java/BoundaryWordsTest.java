@@ -439,7 +439,9 @@ final class BoundaryWordsTest {
         for (int i = 1; i <= 4; i++) {
             Due.is("items may wait", i, x.item(0, 10 + i));
         }
-        Due.is("a row more", FULL, x.row(0, 1, 0));
+        for (int act = 0; act <= 2; act++) {
+            Due.is("a row more, act " + act, FULL, x.row(0, 1, act));
+        }
         Due.is("they wait", 4, x.count(5));
         Due.is("twenty", 20, x.count(7));
         x.open(0);
