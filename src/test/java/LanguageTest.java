@@ -5,7 +5,9 @@ import java.lang.reflect.Modifier;
 import java.nio.file.Files;
 import java.nio.file.Path;
 import java.util.ArrayList;
+import java.util.LinkedHashMap;
 import java.util.List;
+import java.util.Map;
 import java.util.Set;
 import java.util.TreeSet;
 import java.util.regex.Matcher;
@@ -21,6 +23,9 @@ final class LanguageTest {
         classes();
         words(Files.readString(SOURCE));
         methods(Files.readAllLines(SOURCE));
+        Map<String, String> bodies = bodies(Files.readAllLines(SOURCE));
+        callDepth(bodies);
+        objectsMade(bodies);
         Due.end();
     }
 
@@ -115,6 +120,64 @@ final class LanguageTest {
                 Due.isTrue("the method at line " + (start + 1) + " is short", i - start < 60);
             }
             Due.isTrue("line " + (i + 1) + " holds plain signs", line.chars().allMatch(sign -> sign >= 32 && sign < 127));
+        }
+    }
+
+    /** What stands in each method, by its name: no two methods of the program bear one name. */
+    private static Map<String, String> bodies(List<String> lines) {
+        Pattern head = Pattern.compile("( {4}| {8})(?:public |private )?(?:static )?(?:\\w+ )?(\\w+)\\(.*\\) \\{");
+        Map<String, String> bodies = new LinkedHashMap<>();
+        for (int i = 0; i < lines.size(); i++) {
+            Matcher found = head.matcher(lines.get(i));
+            if (found.matches() && !found.group(2).matches("if|for|while|switch")) {
+                StringBuilder body = new StringBuilder();
+                for (int k = i + 1; k < lines.size() && !lines.get(k).equals(found.group(1) + "}"); k++) {
+                    body.append(lines.get(k).replaceAll("//.*", "")).append('\n');
+                }
+                Due.isTrue("one method bears the name " + found.group(2), bodies.put(found.group(2), body.toString()) == null);
+            }
+        }
+        for (String name : Calls.NAMES) {
+            Due.isTrue("the method " + name + " is found", bodies.containsKey(name));
+        }
+        return bodies;
+    }
+
+    /** Rule 11: calls go at most eight deep. Rule 8: only the planner's two methods call one another. */
+    private static void callDepth(Map<String, String> bodies) {
+        Set<String> recursive = new TreeSet<>();
+        int deepest = 0;
+        for (String name : Calls.NAMES) {
+            int depth = depth(bodies, name, new ArrayList<>(List.of(name)), recursive);
+            Due.isTrue("the calls of " + name + " go " + depth + " deep", depth <= 8);
+            deepest = Math.max(deepest, depth);
+        }
+        Due.isTrue("the calls are found", deepest >= 5);
+        Due.isTrue("recursion of " + recursive, recursive.equals(Set.of("fewest", "fewestBy")));
+    }
+
+    private static int depth(Map<String, String> bodies, String name, List<String> open, Set<String> recursive) {
+        int deepest = open.size();
+        Matcher calls = Pattern.compile("\\b(\\w+)\\(").matcher(bodies.get(name));
+        while (calls.find()) {
+            String next = calls.group(1);
+            boolean made = calls.start() >= 4 && bodies.get(name).startsWith("new ", calls.start() - 4);
+            if (open.contains(next)) {
+                recursive.addAll(open.subList(open.indexOf(next), open.size()));
+            } else if (bodies.containsKey(next) && !made) {
+                open.add(next);
+                deepest = Math.max(deepest, depth(bodies, next, open, recursive));
+                open.remove(open.size() - 1);
+            }
+        }
+        return deepest;
+    }
+
+    /** Rule 12, and the one room for all calls: only form() makes an object. */
+    private static void objectsMade(Map<String, String> bodies) {
+        for (Map.Entry<String, String> body : bodies.entrySet()) {
+            boolean makes = Pattern.compile("\\bnew\\b|\\bclone\\b|copyOf").matcher(body.getValue()).find();
+            Due.isTrue(body.getKey() + " makes no object", !makes || body.getKey().equals("form"));
         }
     }
 }

@@ -25,15 +25,17 @@ final class ModelTest {
         isRich = pick(4) != 0;
         wordLimit = 4 + random.nextInt(14);
         rowLimit = random.nextInt(8) == 0 ? 20 : 3 + random.nextInt(7);
-        lineLimit = rowLimit == 20 ? 3 : 1 + random.nextInt(5);
+        // the model makes every reading: lines of 8 words only where few rows fit
+        lineLimit = rowLimit == 20 ? 3 : rowLimit == 3 ? 8 : 1 + random.nextInt(5);
     }
 
     public static void main(String[] args) {
-        int[] seen = new int[4];
+        int[] seen = new int[5];
         for (int run = 0; run < RUNS && Due.wrong() < 5; run++) {
             new ModelTest(run).go(run, seen);
         }
-        String[] names = {"barred lines", "hopeless forms", "doubtful lines", "confirmations"};
+        String[] names = {"barred lines", "hopeless forms", "doubtful lines", "confirmations",
+            "lines of 8 words"};
         for (int i = 0; i < seen.length; i++) {
             System.out.println(seen[i] + " " + names[i]);
             Due.isTrue("the runs meet " + names[i], seen[i] > 100);
@@ -194,6 +196,7 @@ final class ModelTest {
             for (int i = 1 + pick(lineLimit); i > 0 && model.count(4) < lineLimit; i--) {
                 call("say", pick(isRich ? 4 * places(f) + 1 : wordLimit));
             }
+            seen[4] += model.count(4) == 8 ? 1 : 0;
             call("hear");
             look(f, seen);
         } else if (way < 27) {
